@@ -1,0 +1,190 @@
+/** What the tests share: a sheet with short ways to call it, and the count of wrong answers. */
+final class Check {
+    static int wrong = 0;
+
+    final LedgerleafSheets sheet = new LedgerleafSheets();
+
+    /** A call that may throw. */
+    interface Call {
+        void run();
+    }
+
+    static void same(String what, long got, long want) {
+        if (got != want) {
+            tell(what, got + " (" + (char) got + ")", want + " (" + (char) want + ")");
+        }
+    }
+
+    static void same(String what, String got, String want) {
+        if (!want.equals(got)) {
+            tell(what, got, want);
+        }
+    }
+
+    static void same(String what, boolean got, boolean want) {
+        if (got != want) {
+            tell(what, "" + got, "" + want);
+        }
+    }
+
+    static void same(String what, double got, double want) {
+        if (Double.doubleToLongBits(got) != Double.doubleToLongBits(want)) {
+            tell(what, "" + got, "" + want);
+        }
+    }
+
+    private static void tell(String what, String got, String want) {
+        wrong++;
+        System.out.println(what + " answered " + got + ", due is " + want);
+    }
+
+    static void throwing(String what, Class<? extends RuntimeException> due, Call call) {
+        RuntimeException met = null;
+        try {
+            call.run();
+        } catch (RuntimeException e) {
+            met = e;
+        }
+        if (met == null || met.getClass() != due) {
+            tell(what, "" + met, due.getName());
+        }
+    }
+
+    static void illegal(String what, Call call) {
+        throwing(what, IllegalArgumentException.class, call);
+    }
+
+    static void state(String what, Call call) {
+        throwing(what, IllegalStateException.class, call);
+    }
+
+    static void outside(String what, Call call) {
+        throwing(what, IndexOutOfBoundsException.class, call);
+    }
+
+    static void none(String what, Call call) {
+        throwing(what, java.util.NoSuchElementException.class, call);
+    }
+
+    static void refused(String what, Call call) {
+        throwing(what, UnsupportedOperationException.class, call);
+    }
+
+    static void end() {
+        if (wrong > 0) {
+            System.out.println(wrong + " wrong");
+            System.exit(1);
+        }
+    }
+
+    Check type(String letters) {
+        for (int i = 0; i < letters.length(); i++) {
+            sheet.type(letters.charAt(i));
+        }
+        return this;
+    }
+
+    /** Enters a content into a cell told as in formulas, "a0". */
+    char put(int hand, String cell, String letters) {
+        sheet.erase();
+        type(letters);
+        return sheet.enter(hand, row(cell), column(cell));
+    }
+
+    char put(String cell, String letters) {
+        return put(0, cell, letters);
+    }
+
+    int name(char name, String letters) {
+        sheet.erase();
+        type(letters);
+        return sheet.define(name);
+    }
+
+    int fill(String from, String to) {
+        return sheet.fill(0, row(from), column(from), row(to), column(to));
+    }
+
+    void refuses(String cell, String letters) {
+        sheet.erase();
+        type(letters);
+        refused(letters, () -> sheet.enter(0, row(cell), column(cell)));
+        sheet.erase();
+    }
+
+    static int row(String cell) {
+        return cell.charAt(1) - '0';
+    }
+
+    static int column(String cell) {
+        return cell.charAt(0) - 'a';
+    }
+
+    /** A value in short: "6.0", "'x", "" for blank, "!s" for an error. */
+    String value(String cell) {
+        int row = row(cell);
+        int column = column(cell);
+        switch (sheet.kindAt(row, column)) {
+            case 'n':
+                return "" + sheet.numberAt(row, column);
+            case 't':
+                StringBuilder text = new StringBuilder("'");
+                for (int i = 0; i < sheet.textLength(row, column); i++) {
+                    text.append(sheet.textAt(row, column, i));
+                }
+                return text.toString();
+            case 'b':
+                return "";
+            case 'e':
+                return "!" + sheet.errorAt(row, column);
+            default:
+                return "?";
+        }
+    }
+
+    void holds(String cell, String want) {
+        same("value of " + cell, value(cell), want);
+    }
+
+    /** The values of a block of cells, with blanks between them and "/" between the rows. */
+    String block(String from, String to) {
+        StringBuilder all = new StringBuilder();
+        for (int row = row(from); row <= row(to); row++) {
+            for (int column = column(from); column <= column(to); column++) {
+                if (column > column(from)) {
+                    all.append(' ');
+                }
+                all.append(value("" + (char) ('a' + column) + (char) ('0' + row)));
+            }
+            if (row < row(to)) {
+                all.append('/');
+            }
+        }
+        return all.toString();
+    }
+
+    void holds(String from, String to, String want) {
+        same("values from " + from + " to " + to, block(from, to), want);
+    }
+
+    /** What a formula in f5 answers there. */
+    void gives(String formula, String want) {
+        put("f5", formula);
+        same(formula, value("f5"), want);
+        put("f5", "");
+    }
+
+    String written(String cell) {
+        int length = sheet.write(row(cell), column(cell));
+        StringBuilder letters = new StringBuilder();
+        for (int i = 0; i < length; i++) {
+            letters.append(sheet.writtenAt(i));
+        }
+        outside("writtenAt behind the end", () -> sheet.writtenAt(length));
+        return letters.toString();
+    }
+
+    void writes(String cell, String want) {
+        same("formula of " + cell, written(cell), want);
+    }
+}
