@@ -95,12 +95,8 @@ public final class LedgerleafSheets {
 
     public char enter(int hand, int row, int column)
             throws IllegalArgumentException, IndexOutOfBoundsException, UnsupportedOperationException {
-        if (!isHand(hand)) {
-            throw new IllegalArgumentException("no such hand");
-        }
-        if (!sheet.hasCell(row, column)) {
-            throw new IndexOutOfBoundsException("no such cell");
-        }
+        checkHand(hand);
+        checkCell(row, column);
         Content content = sheet.contentFrom(typed.toString());
         if (content == null) {
             throw new UnsupportedOperationException("not a formula");
@@ -127,12 +123,9 @@ public final class LedgerleafSheets {
 
     public int fill(int hand, int row, int column, int toRow, int toColumn)
             throws IllegalArgumentException, IndexOutOfBoundsException, NoSuchElementException {
-        if (!isHand(hand)) {
-            throw new IllegalArgumentException("no such hand");
-        }
-        if (!sheet.hasCell(row, column) || !sheet.hasCell(toRow, toColumn)) {
-            throw new IndexOutOfBoundsException("no such cell");
-        }
+        checkHand(hand);
+        checkCell(row, column);
+        checkCell(toRow, toColumn);
         Content content = sheet.contentIn(row, column);
         if (content.kind == BLANK) {
             throw new NoSuchElementException("no content");
@@ -155,75 +148,34 @@ public final class LedgerleafSheets {
 
     public int insertRow(int hand, int place)
             throws IllegalArgumentException, IndexOutOfBoundsException, IllegalStateException {
-        if (!isHand(hand)) {
-            throw new IllegalArgumentException("no such hand");
-        }
-        if (place < 0 || place > sheet.rowAxis.count) {
-            throw new IndexOutOfBoundsException("no such place");
-        }
-        if (!sheet.rowAxis.hasRoom()) {
-            throw new IllegalStateException("no room for a row");
-        }
-        keep(hand, sheet.insert(sheet.rowAxis, place));
-        return sheet.rowAxis.count;
+        return insertLine(hand, sheet.rowAxis, place);
     }
 
     public int insertColumn(int hand, int place)
             throws IllegalArgumentException, IndexOutOfBoundsException, IllegalStateException {
-        if (!isHand(hand)) {
-            throw new IllegalArgumentException("no such hand");
-        }
-        if (place < 0 || place > sheet.columnAxis.count) {
-            throw new IndexOutOfBoundsException("no such place");
-        }
-        if (!sheet.columnAxis.hasRoom()) {
-            throw new IllegalStateException("no room for a column");
-        }
-        keep(hand, sheet.insert(sheet.columnAxis, place));
-        return sheet.columnAxis.count;
+        return insertLine(hand, sheet.columnAxis, place);
     }
 
     public int removeRow(int hand, int row)
             throws IllegalArgumentException, IndexOutOfBoundsException, IllegalStateException {
-        if (!isHand(hand)) {
-            throw new IllegalArgumentException("no such hand");
-        }
-        if (!sheet.rowAxis.hasPlace(row)) {
-            throw new IndexOutOfBoundsException("no such row");
-        }
-        if (sheet.rowAxis.count == 1) {
-            throw new IllegalStateException("the last row");
-        }
-        int filled = sheet.countFilled(sheet.rowAxis, sheet.rowAxis.lineAt(row));
-        keep(hand, sheet.remove(sheet.rowAxis, row));
-        return filled;
+        return removeLine(hand, sheet.rowAxis, row);
     }
 
     public int removeColumn(int hand, int column)
             throws IllegalArgumentException, IndexOutOfBoundsException, IllegalStateException {
-        if (!isHand(hand)) {
-            throw new IllegalArgumentException("no such hand");
-        }
-        if (!sheet.columnAxis.hasPlace(column)) {
-            throw new IndexOutOfBoundsException("no such column");
-        }
-        if (sheet.columnAxis.count == 1) {
-            throw new IllegalStateException("the last column");
-        }
-        int filled = sheet.countFilled(sheet.columnAxis, sheet.columnAxis.lineAt(column));
-        keep(hand, sheet.remove(sheet.columnAxis, column));
-        return filled;
+        return removeLine(hand, sheet.columnAxis, column);
     }
 
     public int sortRows(int hand, int column, int from, int to)
             throws IllegalArgumentException, IndexOutOfBoundsException {
-        if (!isHand(hand) || to < from) {
-            throw new IllegalArgumentException("no such hand, or no rows");
+        checkHand(hand);
+        if (to < from) {
+            throw new IllegalArgumentException("the last row is ahead of the first one");
         }
-        if (!sheet.hasCell(from, column) || !sheet.hasCell(to, column)) {
-            throw new IndexOutOfBoundsException("no such row or column");
-        }
-        Edit edit = sheet.sort(column, from, to, settled(ordinary).now);
+        checkCell(from, column);
+        checkCell(to, column);
+        ordinary.settle();
+        Edit edit = sheet.sort(column, from, to, ordinary.now);
         keep(hand, edit);
         return edit.countMoved();
     }
@@ -241,9 +193,7 @@ public final class LedgerleafSheets {
 
     public int undo(int hand)
             throws IllegalArgumentException, NoSuchElementException, UnsupportedOperationException {
-        if (!isHand(hand)) {
-            throw new IllegalArgumentException("no such hand");
-        }
+        checkHand(hand);
         Edit edit = latest[hand];
         if (keptCounts[hand] == 0 || edit == null) {
             throw new NoSuchElementException("nothing is kept");
@@ -258,65 +208,39 @@ public final class LedgerleafSheets {
     }
 
     public int kept(int hand) throws IllegalArgumentException {
-        if (!isHand(hand)) {
-            throw new IllegalArgumentException("no such hand");
-        }
+        checkHand(hand);
         return keptCounts[hand];
     }
 
     public char kindAt(int row, int column) throws IndexOutOfBoundsException {
-        if (!sheet.hasCell(row, column)) {
-            throw new IndexOutOfBoundsException("no such cell");
-        }
-        return settled(ordinary).now.plainKind(placeOf(row, column));
+        checkCell(row, column);
+        ordinary.settle();
+        return ordinary.now.plainKind(placeOf(row, column));
     }
 
     public double numberAt(int row, int column) throws IndexOutOfBoundsException, NoSuchElementException {
-        if (!sheet.hasCell(row, column)) {
-            throw new IndexOutOfBoundsException("no such cell");
-        }
-        Values values = settled(ordinary).now;
-        int place = placeOf(row, column);
-        if (values.kinds[place] != NUMBER) {
-            throw new NoSuchElementException("no number");
-        }
-        return values.numbers[place];
+        checkCell(row, column);
+        return settledNumber(ordinary, placeOf(row, column));
     }
 
     public char errorAt(int row, int column) throws IndexOutOfBoundsException, NoSuchElementException {
-        if (!sheet.hasCell(row, column)) {
-            throw new IndexOutOfBoundsException("no such cell");
-        }
-        Values values = settled(ordinary).now;
+        checkCell(row, column);
+        ordinary.settle();
         int place = placeOf(row, column);
-        if (!values.isError(place)) {
+        if (!ordinary.now.isError(place)) {
             throw new NoSuchElementException("no error");
         }
-        return (char) (values.kinds[place] - 'A' + 'a');
+        return (char) (ordinary.now.kinds[place] - 'A' + 'a');
     }
 
     public int textLength(int row, int column) throws IndexOutOfBoundsException, NoSuchElementException {
-        if (!sheet.hasCell(row, column)) {
-            throw new IndexOutOfBoundsException("no such cell");
-        }
-        Values values = settled(ordinary).now;
-        int place = placeOf(row, column);
-        if (values.kinds[place] != TEXT) {
-            throw new NoSuchElementException("no text");
-        }
-        return values.lettersOf(place).length();
+        checkCell(row, column);
+        return settledText(placeOf(row, column)).length();
     }
 
     public char textAt(int row, int column, int index) throws IndexOutOfBoundsException, NoSuchElementException {
-        if (!sheet.hasCell(row, column)) {
-            throw new IndexOutOfBoundsException("no such cell");
-        }
-        Values values = settled(ordinary).now;
-        int place = placeOf(row, column);
-        if (values.kinds[place] != TEXT) {
-            throw new NoSuchElementException("no text");
-        }
-        String letters = values.lettersOf(place);
+        checkCell(row, column);
+        String letters = settledText(placeOf(row, column));
         if (index < 0 || index >= letters.length()) {
             throw new NoSuchElementException("no such character");
         }
@@ -324,29 +248,20 @@ public final class LedgerleafSheets {
     }
 
     public char kindByAll(int row, int column) throws IndexOutOfBoundsException {
-        if (!sheet.hasCell(row, column)) {
-            throw new IndexOutOfBoundsException("no such cell");
-        }
-        return settled(byAll).now.plainKind(placeOf(row, column));
+        checkCell(row, column);
+        byAll.settle();
+        return byAll.now.plainKind(placeOf(row, column));
     }
 
     public double numberByAll(int row, int column) throws IndexOutOfBoundsException, NoSuchElementException {
-        if (!sheet.hasCell(row, column)) {
-            throw new IndexOutOfBoundsException("no such cell");
-        }
-        Values values = settled(byAll).now;
-        int place = placeOf(row, column);
-        if (values.kinds[place] != NUMBER) {
-            throw new NoSuchElementException("no number");
-        }
-        return values.numbers[place];
+        checkCell(row, column);
+        return settledNumber(byAll, placeOf(row, column));
     }
 
     public int spillOf(int row, int column) throws IndexOutOfBoundsException, NoSuchElementException {
-        if (!sheet.hasCell(row, column)) {
-            throw new IndexOutOfBoundsException("no such cell");
-        }
-        int origin = settled(ordinary).origins[placeOf(row, column)];
+        checkCell(row, column);
+        ordinary.settle();
+        int origin = ordinary.origins[placeOf(row, column)];
         if (origin < 0) {
             throw new NoSuchElementException("no array");
         }
@@ -354,31 +269,28 @@ public final class LedgerleafSheets {
     }
 
     public int passes() {
-        return settled(ordinary).made;
+        ordinary.settle();
+        return ordinary.made;
     }
 
     public int workedOut() {
-        return settled(ordinary).worked;
+        ordinary.settle();
+        return ordinary.worked;
     }
 
     public int readers(int row, int column) throws IndexOutOfBoundsException {
-        if (!sheet.hasCell(row, column)) {
-            throw new IndexOutOfBoundsException("no such cell");
-        }
-        return settled(ordinary).countReaders(placeOf(row, column));
+        checkCell(row, column);
+        ordinary.settle();
+        return ordinary.countReaders(placeOf(row, column));
     }
 
     public char contentAt(int row, int column) throws IndexOutOfBoundsException {
-        if (!sheet.hasCell(row, column)) {
-            throw new IndexOutOfBoundsException("no such cell");
-        }
+        checkCell(row, column);
         return sheet.contentIn(row, column).kind;
     }
 
     public int write(int row, int column) throws IndexOutOfBoundsException, NoSuchElementException {
-        if (!sheet.hasCell(row, column)) {
-            throw new IndexOutOfBoundsException("no such cell");
-        }
+        checkCell(row, column);
         Node formula = sheet.contentIn(row, column).formula;
         if (formula == null) {
             throw new NoSuchElementException("no formula");
@@ -397,11 +309,11 @@ public final class LedgerleafSheets {
     }
 
     public int errors() {
-        Values values = settled(ordinary).now;
+        ordinary.settle();
         int count = 0;
         for (int row = 0; row < sheet.rowAxis.count; row++) {
             for (int column = 0; column < sheet.columnAxis.count; column++) {
-                if (values.isError(placeOf(row, column))) {
+                if (ordinary.now.isError(placeOf(row, column))) {
                     count++;
                 }
             }
@@ -410,46 +322,35 @@ public final class LedgerleafSheets {
     }
 
     public long bitsOf(int row, int column) throws IndexOutOfBoundsException, NoSuchElementException {
-        if (!sheet.hasCell(row, column)) {
-            throw new IndexOutOfBoundsException("no such cell");
-        }
-        Values values = settled(ordinary).now;
-        int place = placeOf(row, column);
-        if (values.kinds[place] != NUMBER) {
-            throw new NoSuchElementException("no number");
-        }
-        return bitsOfNumber(values.numbers[place]);
+        checkCell(row, column);
+        return bitsOfNumber(settledNumber(ordinary, placeOf(row, column)));
     }
 
     public float filledShare() {
-        Values values = settled(ordinary).now;
+        ordinary.settle();
         int count = 0;
         for (int row = 0; row < sheet.rowAxis.count; row++) {
             for (int column = 0; column < sheet.columnAxis.count; column++) {
-                if (values.kinds[placeOf(row, column)] != BLANK) {
+                if (ordinary.now.kinds[placeOf(row, column)] != BLANK) {
                     count++;
                 }
             }
         }
+        // There is always a row and a column, so that the divisor is at least 1.
         return (float) count / (float) (sheet.rowAxis.count * sheet.columnAxis.count);
     }
 
     public boolean isSound() {
-        Values one = settled(ordinary).now;
-        Values other = settled(byAll).now;
+        ordinary.settle();
+        byAll.settle();
         for (int row = 0; row < sheet.rowAxis.count; row++) {
             for (int column = 0; column < sheet.columnAxis.count; column++) {
-                int place = placeOf(row, column);
-                if (!one.isSameThing(place, other)) {
+                if (!ordinary.now.isSameThing(placeOf(row, column), byAll.now)) {
                     return false;
                 }
             }
         }
         return true;
-    }
-
-    private static boolean isHand(int hand) {
-        return hand >= 0 && hand < HANDS;
     }
 
     private static int placeOf(int row, int column) {
@@ -468,11 +369,41 @@ public final class LedgerleafSheets {
         return number > 1.7976931348623157E308 || number < -1.7976931348623157E308;
     }
 
-    private Passes settled(Passes passes) {
-        if (passes.isDue) {
-            passes.settle();
+    private static void checkHand(int hand) {
+        if (hand < 0 || hand >= HANDS) {
+            throw new IllegalArgumentException("no such hand");
         }
-        return passes;
+    }
+
+    private void checkCell(int row, int column) {
+        if (!sheet.hasCell(row, column)) {
+            throw new IndexOutOfBoundsException("no such row or column");
+        }
+    }
+
+    private int insertLine(int hand, Axis axis, int place) {
+        checkHand(hand);
+        if (place < 0 || place > axis.count) {
+            throw new IndexOutOfBoundsException("no such place");
+        }
+        if (!axis.hasRoom()) {
+            throw new IllegalStateException("no room");
+        }
+        keep(hand, sheet.insert(axis, place));
+        return axis.count;
+    }
+
+    private int removeLine(int hand, Axis axis, int place) {
+        checkHand(hand);
+        if (!axis.hasPlace(place)) {
+            throw new IndexOutOfBoundsException("no such place");
+        }
+        if (axis.count == 1) {
+            throw new IllegalStateException("the last one");
+        }
+        int filled = sheet.countFilled(axis, axis.lineAt(place));
+        keep(hand, sheet.remove(axis, place));
+        return filled;
     }
 
     private void markDue() {
@@ -485,6 +416,22 @@ public final class LedgerleafSheets {
         latest[hand] = edit;
         keptCounts[hand] = Math.min(MOST_KEPT, keptCounts[hand] + 1);
         markDue();
+    }
+
+    private double settledNumber(Passes passes, int place) {
+        passes.settle();
+        if (passes.now.kinds[place] != NUMBER) {
+            throw new NoSuchElementException("no number");
+        }
+        return passes.now.numbers[place];
+    }
+
+    private String settledText(int place) {
+        ordinary.settle();
+        if (ordinary.now.kinds[place] != TEXT) {
+            throw new NoSuchElementException("no text");
+        }
+        return ordinary.now.lettersOf(place);
     }
 
     private static long bitsOfNumber(double number) {
@@ -568,7 +515,7 @@ public final class LedgerleafSheets {
         }
 
         Line lineAt(int place) {
-            return hasPlace(place) ? lines[place] : nowhere;
+            return place >= 0 && place < count ? lines[place] : nowhere;
         }
 
         void putIn(int place, Line line) {
@@ -674,7 +621,7 @@ public final class LedgerleafSheets {
         }
 
         private boolean isGoneReference() {
-            return kind == REFERENCE && (row.isGone() || column.isGone());
+            return kind == REFERENCE && (row.place < 0 || column.place < 0);
         }
 
         int countGone(int level) {
@@ -878,7 +825,7 @@ public final class LedgerleafSheets {
 
         // A row's and a column's offset make a cell's index in either order.
         Content contentOf(Line line, Line crossing) {
-            if (line.isGone() || crossing.isGone()) {
+            if (line.place < 0 || crossing.place < 0) {
                 return nothing;
             }
             return cells[line.offset + crossing.offset];
@@ -1597,9 +1544,7 @@ public final class LedgerleafSheets {
                     changeThings(node.kind, here);
                     break;
                 default:
-                    work(node.parts[0], slot, depth + 1, namesDeep);
-                    work(node.parts[1], slot + 1, depth + 1, namesDeep);
-                    combine(node.kind, here, slotAt(slot + 1));
+                    workPair(node, slot, depth, namesDeep);
                     break;
             }
         }
@@ -1684,7 +1629,11 @@ public final class LedgerleafSheets {
             }
         }
 
-        private void combine(char sign, Values here, Values other) {
+        private void workPair(Node node, int slot, int depth, int namesDeep) {
+            Values here = slotAt(slot);
+            Values other = slotAt(slot + 1);
+            work(node.parts[0], slot, depth + 1, namesDeep);
+            work(node.parts[1], slot + 1, depth + 1, namesDeep);
             boolean isOne = here.isSingle();
             boolean isOtherOne = other.isSingle();
             if (!isOne && !isOtherOne && (here.height != other.height || here.width != other.width)) {
@@ -1696,11 +1645,11 @@ public final class LedgerleafSheets {
             }
             // From the last one on, for the single thing stands where the first result goes.
             for (int at = here.size() - 1; at >= 0; at--) {
-                combineThings(sign, here, isOne ? 0 : at, other, isOtherOne ? 0 : at, at);
+                combine(node.kind, here, isOne ? 0 : at, other, isOtherOne ? 0 : at, at);
             }
         }
 
-        private void combineThings(char sign, Values here, int one, Values other, int two, int at) {
+        private static void combine(char sign, Values here, int one, Values other, int two, int at) {
             if (here.isError(one)) {
                 here.setThing(at, here, one);
             } else if (other.isError(two)) {
@@ -1711,29 +1660,24 @@ public final class LedgerleafSheets {
                 here.setNumber(at, here.isEqual(one, other, two) ? 1.0 : 0.0);
             } else if (here.kinds[one] == TEXT || other.kinds[two] == TEXT) {
                 here.setEmpty(at, WRONG_KIND);
+            } else if (sign == '/' && other.numbers[two] == 0.0) {
+                here.setEmpty(at, BY_ZERO);
             } else {
-                reckon(sign, here, here.numbers[one], other.numbers[two], at);
+                here.setResult(at, reckoned(sign, here.numbers[one], other.numbers[two]));
             }
         }
 
-        private static void reckon(char sign, Values here, double one, double two, int at) {
+        // A division comes here only with a divisor other than 0.
+        private static double reckoned(char sign, double one, double two) {
             switch (sign) {
                 case '+':
-                    here.setResult(at, one + two);
-                    break;
+                    return one + two;
                 case '-':
-                    here.setResult(at, one - two);
-                    break;
+                    return one - two;
                 case '*':
-                    here.setResult(at, one * two);
-                    break;
+                    return one * two;
                 default:
-                    if (two == 0.0) {
-                        here.setEmpty(at, BY_ZERO);
-                    } else {
-                        here.setResult(at, one / two);
-                    }
-                    break;
+                    return two == 0.0 ? 0.0 : one / two;
             }
         }
 
@@ -1823,8 +1767,9 @@ public final class LedgerleafSheets {
             int bottom = part.bottom();
             int right = part.right();
             for (int row = part.top(); row <= bottom; row++) {
-                for (int column = part.left(); column <= right; column++) {
-                    if (isLeftOut(row, column)) {
+                for (int column = part.left(); column <= right && !sheet.rowAxis.lineAt(row).isHidden; column++) {
+                    Node formula = sheet.contentIn(row, column).formula;
+                    if (formula != null && formula.isSub()) {
                         continue;
                     }
                     int place = placeOf(row, column);
@@ -1837,11 +1782,6 @@ public final class LedgerleafSheets {
                 }
             }
             tellTotal(here, error, total);
-        }
-
-        private boolean isLeftOut(int row, int column) {
-            Node formula = sheet.contentIn(row, column).formula;
-            return sheet.rowAxis.lineAt(row).isHidden || formula != null && formula.isSub();
         }
 
         private void workIf(Node node, int slot, int depth, int namesDeep) {
@@ -1877,11 +1817,7 @@ public final class LedgerleafSheets {
                 here.becomeThing(other, 0);
                 return;
             }
-            makeWhole(node.code, here, other);
-        }
-
-        private void makeWhole(int code, Values here, Values other) {
-            switch (code) {
+            switch (node.code) {
                 case SEQ:
                     makeSequence(here, other);
                     break;
@@ -2048,6 +1984,9 @@ public final class LedgerleafSheets {
         }
 
         void settle() {
+            if (!isDue) {
+                return;
+            }
             made = 0;
             worked = 0;
             putContents();
@@ -2087,9 +2026,12 @@ public final class LedgerleafSheets {
             reckoner.startPass(ahead);
             for (int place = 0; place < MOST_CELLS; place++) {
                 Node formula = formulaAt(place);
+                boolean isWanted = formula != null && (isFirst || isWhole || hasReadChange(place));
                 hasChanged[place] = false;
-                if (formula != null && (isFirst || isWhole || hasReadChange(place))) {
-                    workFormula(place, formula, isFirst);
+                if (isWanted) {
+                    Values result = reckoner.workOut(formula);
+                    worked++;
+                    keepResult(place, result, isFirst);
                 }
             }
         }
@@ -2098,16 +2040,14 @@ public final class LedgerleafSheets {
             return (lowReads[place] & lowChanged) != 0 || (highReads[place] & highChanged) != 0;
         }
 
-        private void workFormula(int place, Node formula, boolean isFirst) {
-            Values result = reckoner.workOut(formula);
-            worked++;
-            lowReads[place] = reckoner.low;
-            highReads[place] = reckoner.high;
+        private void keepResult(int place, Values result, boolean isFirst) {
             if (results[place] == null) {
                 results[place] = new Values(MOST_THINGS);
             }
             hasChanged[place] = isFirst || !results[place].isSame(result);
             results[place].become(result);
+            lowReads[place] = reckoner.low;
+            highReads[place] = reckoner.high;
         }
 
         private void putResults() {
