@@ -187,4 +187,44 @@ final class Check {
     void writes(String cell, String want) {
         same("formula of " + cell, written(cell), want);
     }
+
+    /** All that can be asked without changing anything, but what is typed and written. */
+    String state() {
+        StringBuilder all = new StringBuilder();
+        all.append(sheet.rows()).append('x').append(sheet.columns());
+        for (int hand = 0; hand < 3; hand++) {
+            all.append(" kept ").append(sheet.kept(hand));
+        }
+        all.append(" passes ").append(sheet.passes()).append(" worked out ").append(sheet.workedOut());
+        all.append(" errors ").append(sheet.errors()).append(" share ").append(sheet.filledShare());
+        for (int row = 0; row < sheet.rows(); row++) {
+            for (int column = 0; column < sheet.columns(); column++) {
+                String cell = "" + (char) ('a' + column) + (char) ('0' + row);
+                all.append('\n').append(cell).append(' ').append(sheet.contentAt(row, column));
+                all.append(' ').append(value(cell)).append(' ').append(sheet.kindByAll(row, column));
+                all.append(' ').append(sheet.readers(row, column)).append(' ').append(spill(cell));
+            }
+        }
+        return all.toString();
+    }
+
+    /** From where an array was put down on a cell, or -1. */
+    int spill(String cell) {
+        try {
+            return sheet.spillOf(row(cell), column(cell));
+        } catch (java.util.NoSuchElementException e) {
+            return -1;
+        }
+    }
+
+    /** A call that throws, and changes neither the sheet nor what is typed and written. */
+    void throwingSame(String what, Class<? extends RuntimeException> due, Call call) {
+        String ahead = state();
+        throwing(what, due, call);
+        same("state behind " + what, state(), ahead);
+    }
+
+    int readers(String cell) {
+        return sheet.readers(row(cell), column(cell));
+    }
 }
