@@ -220,7 +220,8 @@ public final class LedgerleafSheets {
 
     public double numberAt(int row, int column) throws IndexOutOfBoundsException, NoSuchElementException {
         checkCell(row, column);
-        return settledNumber(ordinary, placeOf(row, column));
+        ordinary.settle();
+        return neededNumber(ordinary.now, placeOf(row, column));
     }
 
     public char errorAt(int row, int column) throws IndexOutOfBoundsException, NoSuchElementException {
@@ -235,12 +236,14 @@ public final class LedgerleafSheets {
 
     public int textLength(int row, int column) throws IndexOutOfBoundsException, NoSuchElementException {
         checkCell(row, column);
-        return settledText(placeOf(row, column)).length();
+        ordinary.settle();
+        return neededText(placeOf(row, column)).length();
     }
 
     public char textAt(int row, int column, int index) throws IndexOutOfBoundsException, NoSuchElementException {
         checkCell(row, column);
-        String letters = settledText(placeOf(row, column));
+        ordinary.settle();
+        String letters = neededText(placeOf(row, column));
         if (index < 0 || index >= letters.length()) {
             throw new NoSuchElementException("no such character");
         }
@@ -255,7 +258,8 @@ public final class LedgerleafSheets {
 
     public double numberByAll(int row, int column) throws IndexOutOfBoundsException, NoSuchElementException {
         checkCell(row, column);
-        return settledNumber(byAll, placeOf(row, column));
+        byAll.settle();
+        return neededNumber(byAll.now, placeOf(row, column));
     }
 
     public int spillOf(int row, int column) throws IndexOutOfBoundsException, NoSuchElementException {
@@ -323,7 +327,8 @@ public final class LedgerleafSheets {
 
     public long bitsOf(int row, int column) throws IndexOutOfBoundsException, NoSuchElementException {
         checkCell(row, column);
-        return bitsOfNumber(settledNumber(ordinary, placeOf(row, column)));
+        ordinary.settle();
+        return bitsOfNumber(neededNumber(ordinary.now, placeOf(row, column)));
     }
 
     public float filledShare() {
@@ -418,16 +423,14 @@ public final class LedgerleafSheets {
         markDue();
     }
 
-    private double settledNumber(Passes passes, int place) {
-        passes.settle();
-        if (passes.now.kinds[place] != NUMBER) {
+    private static double neededNumber(Values values, int place) {
+        if (values.kinds[place] != NUMBER) {
             throw new NoSuchElementException("no number");
         }
-        return passes.now.numbers[place];
+        return values.numbers[place];
     }
 
-    private String settledText(int place) {
-        ordinary.settle();
+    private String neededText(int place) {
         if (ordinary.now.kinds[place] != TEXT) {
             throw new NoSuchElementException("no text");
         }
@@ -1371,13 +1374,19 @@ public final class LedgerleafSheets {
         }
 
         void becomeNumber(double number) {
-            shape(1, 1);
-            setNumber(0, number);
+            height = 1;
+            width = 1;
+            kinds[0] = NUMBER;
+            numbers[0] = number;
+            texts[0] = null;
         }
 
         void becomeError(char error) {
-            shape(1, 1);
-            setEmpty(0, error);
+            height = 1;
+            width = 1;
+            kinds[0] = error;
+            numbers[0] = 0.0;
+            texts[0] = null;
         }
 
         void becomeThing(Values from, int fromAt) {

@@ -36,6 +36,10 @@ public final class OracleTest {
     }
 
     private void runAll() {
+        int more = random.nextInt(3) == 0 ? 4 : 0;
+        for (int i = 0; i < more; i++) {
+            compare("insertRow", () -> sheet.insertRow(2, 0), () -> oracle.insert(2, oracle.rows, 10, 0));
+        }
         for (int step = 0; step < 60 && calls < 512 && Check.wrong == 0; step++) {
             edit();
             if (random.nextInt(3) == 0) {
@@ -56,7 +60,7 @@ public final class OracleTest {
     /** Small places come more often, so that cells are full and read one another. */
     private int near(int bound) {
         int place = random.nextInt(bound);
-        return random.nextInt(4) == 0 ? place : Math.min(place, random.nextInt(bound));
+        return random.nextInt(3) == 0 ? place : Math.min(place, random.nextInt(bound));
     }
 
     private int hand() {
@@ -174,7 +178,8 @@ public final class OracleTest {
     }
 
     private String reference() {
-        String letters = "" + (char) ('a' + near(6)) + (char) ('0' + near(6));
+        String letters = "" + (char) ('a' + near(oracle.columns.size()))
+                + (char) ('0' + near(oracle.rows.size()));
         if (random.nextInt(5) == 0) {
             letters = "$" + letters;
         }

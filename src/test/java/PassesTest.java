@@ -11,6 +11,7 @@ public final class PassesTest {
         circles();
         circlesOfArrays();
         restingCircles();
+        lastRows();
         readers();
         figures();
         bits();
@@ -234,12 +235,41 @@ public final class PassesTest {
         c.holds("a1", "21.0");
         Check.same("spillOf", c.spill("a1"), 0);
         Check.same("isSound", c.sheet.isSound(), true);
+        c.put("c0", "=1-c0");
+        c.put("a0", "=seq(2+c0)");
+        // Its things are alike in the last passes, but how many there are changed.
+        c.holds("a0", "a2", "!c//");
         // The result is alike in all passes, though where it goes is not.
         c.put("c0", "");
         c.put("a0", "=seq(2)");
         c.put("d0", "=seq(2,1+(d1=2))");
         Check.same("isSound", c.sheet.isSound(), true);
         c.holds("a0", "a1", "1.0/2.0");
+    }
+
+    private static void lastRows() {
+        Check c = new Check();
+        for (int i = 6; i < 10; i++) {
+            c.sheet.insertRow(0, i);
+        }
+        c.name('A', "=b8");
+        c.name('B', "=b9+A");
+        c.put("a0", "=a8+A+B");
+        c.put("a8", "=a9");
+        c.put("a9", "=5");
+        c.put("b8", "=b9");
+        c.put("b9", "=7");
+        c.holds("a0", "26.0");
+        Check.same("passes", c.sheet.passes(), 4);
+        Check.same("workedOut", c.sheet.workedOut(), 5 + 3 + 1);
+        Check.same("readers of a8", c.readers("a8"), 1);
+        Check.same("readers of a9", c.readers("a9"), 1);
+        Check.same("readers of b8", c.readers("b8"), 1);
+        Check.same("readers of b9", c.readers("b9"), 2);
+        Check.same("readers of a1", c.readers("a1"), 0);
+        c.put("c0", "=A");
+        Check.same("readers of b9 through no name", c.readers("b9"), 2);
+        Check.same("readers of b8", c.readers("b8"), 2);
     }
 
     private static void restingCircles() {

@@ -158,6 +158,7 @@ public final class ReckoningTest {
         c.gives("=if(-0.5,2)", "2.0");
         c.gives("=if(0,2)", "0.0");
         c.gives("=if(b0,2,3)", "3.0");
+        c.gives("=if(b0,2)", "0.0");
         c.gives("=if(a0,2,3)", "!v");
         c.gives("=if(\"\",2,3)", "!v");
         c.gives("=if(seq(2),2,3)", "!v");
@@ -350,6 +351,11 @@ public final class ReckoningTest {
         c.holds("d0", "105.0");
         c.name('F', "=A");
         c.holds("d0", "!n");
+        c.name('A', "=iferr(A,0)+1");
+        c.holds("d0", "6.0");
+        c.name('A', "=iferr(B,0)+1");
+        c.name('B', "=iferr(A,10)+1");
+        c.holds("d0", "16.0");
         c.name('F', "=1");
         c.name('A', "=B+B+B+B+B+B+B+B+B+B");
         c.name('B', "=C+C+C+C+C+C+C+C+C+C");
