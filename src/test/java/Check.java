@@ -1,6 +1,8 @@
 /** What the tests share: a sheet with short ways to call it, and the count of wrong answers. */
 final class Check {
     static int wrong = 0;
+    // What the document says there, told together with each wrong answer.
+    private static String sentence = "";
 
     final LedgerleafSheets sheet = new LedgerleafSheets();
 
@@ -33,9 +35,14 @@ final class Check {
         }
     }
 
+    /** Names the sentence of the document that the next answers are due by. */
+    static void says(String words) {
+        sentence = "\"" + words + "\": ";
+    }
+
     private static void tell(String what, String got, String want) {
         wrong++;
-        System.out.println(what + " answered " + got + ", due is " + want);
+        System.out.println(sentence + what + " answered " + got + ", due is " + want);
     }
 
     static void throwing(String what, Class<? extends RuntimeException> due, Call call) {
@@ -222,6 +229,28 @@ final class Check {
         String ahead = state();
         throwing(what, due, call);
         same("state behind " + what, state(), ahead);
+    }
+
+    /** Makes the sheet as large as it can be. */
+    Check grow() {
+        while (sheet.rows() < 10) {
+            sheet.insertRow(2, sheet.rows());
+        }
+        while (sheet.columns() < 8) {
+            sheet.insertColumn(2, sheet.columns());
+        }
+        return this;
+    }
+
+    /** Makes the sheet one cell. */
+    Check shrink() {
+        while (sheet.rows() > 1) {
+            sheet.removeRow(2, sheet.rows() - 1);
+        }
+        while (sheet.columns() > 1) {
+            sheet.removeColumn(2, sheet.columns() - 1);
+        }
+        return this;
     }
 
     int readers(String cell) {
