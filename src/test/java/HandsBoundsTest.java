@@ -520,7 +520,6 @@ public final class HandsBoundsTest {
         c.put(0, "c0", "");
         c.put(1, "b0", "=seq(1,2)");
         c.holds("c0", "2.0");
-        c.sheet.undo(0);
         Check.same("empty with a value", c.sheet.undo(0), 0);
     }
 
