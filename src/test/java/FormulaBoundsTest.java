@@ -21,6 +21,7 @@ public final class FormulaBoundsTest {
         whereverTheyGo();
         goneIsAnError();
         readByThis();
+        eachCellIsRead();
         fromTheLesserToTheGreater();
         rangesOfOneCell();
         goneRanges();
@@ -258,6 +259,22 @@ public final class FormulaBoundsTest {
         Check.same("readers", c.readers("b1"), 1);
     }
 
+    private static void eachCellIsRead() {
+        Check.says("A reference is worked out as the value of its cell, which is read by this.");
+        for (int column = 0; column < 8; column++) {
+            Check c = new Check().grow();
+            String reader = column == 0 ? "b5" : "a5";
+            for (int row = 0; row < 10; row++) {
+                String cell = "" + (char) ('a' + column) + row;
+                c.put(cell, "=" + row + "+1");
+                c.put(reader, "=" + cell);
+                c.holds(reader, (row + 1) + ".0");
+                Check.same("readers of " + cell, c.readers(cell), 1);
+                Check.same("passes", c.sheet.passes(), 3);
+            }
+        }
+    }
+
     private static void fromTheLesserToTheGreater() {
         Check.says("all cells from the lesser to the greater place of both of its rows, and of its columns");
         Check c = new Check();
@@ -424,6 +441,15 @@ public final class FormulaBoundsTest {
         c.put("a0", "2");
         c.holds("f0", "-1.5");
         Check.same("kept", c.sheet.kept(0), 7);
+        c.put("a0", "=if(1=1,\"yes\",-0.50%*A)");
+        c.fill("a0", "b5");
+        c.holds("b5", "'yes");
+        c.writes("b5", "=if((1=1),\"yes\",(-0.50%*A))");
+        c.put("a0", "=sub(b0:b1)+12");
+        c.fill("a0", "b5");
+        c.holds("b5", "!r");
+        c.fill("a0", "b4");
+        c.holds("b4", "12.0");
     }
 
     private static void fillThrows() {

@@ -212,6 +212,11 @@ public final class HandsBoundsTest {
         column(d, "", "=\"\"", "=f5", "0", "-0", "x");
         d.sheet.sortRows(0, 0, 0, 5);
         d.holds("b0", "b5", "3.0/4.0/1.0/5.0/0.0/2.0");
+        Check e = new Check();
+        column(e, "x", "", "x", "", "7", "7");
+        Check.same("sortRows", e.sheet.sortRows(0, 0, 0, 5), 6);
+        e.holds("b0", "b5", "4.0/5.0/0.0/2.0/1.0/3.0");
+        Check.same("sortRows of equal ones", e.sheet.sortRows(0, 0, 0, 5), 0);
     }
 
     private static void errorsComeLast() {
@@ -478,6 +483,17 @@ public final class HandsBoundsTest {
         d.sheet.removeColumn(2, 0);
         Check.same("at another place", d.sheet.undo(0), 0);
         d.holds("b2", "");
+        for (int way = 0; way < 2; way++) {
+            Check e = new Check();
+            e.put(0, "c3", "5");
+            e.put(0, "c3", "");
+            int removed = way == 0 ? e.sheet.removeRow(1, 3) : e.sheet.removeColumn(1, 2);
+            Check.same("of empty cells", removed, 0);
+            e.throwingSame("an empty cell that is gone", UnsupportedOperationException.class, () -> e.sheet.undo(0));
+            e.sheet.undo(1);
+            Check.same("an empty cell that is there", e.sheet.undo(0), 1);
+            e.holds("c3", "5.0");
+        }
     }
 
     private static void notSomethingAlike() {

@@ -3,6 +3,7 @@ public final class ReckoningBoundsTest {
     public static void main(String[] args) {
         atMostSixtyThings();
         infiniteNumbers();
+        theLargestNumber();
         blankIsZero();
         aTextIsWrong();
         noMinusZero();
@@ -41,6 +42,7 @@ public final class ReckoningBoundsTest {
         namesOfNothing();
         namesMeanWhatTheyMeant();
         namesWithinNames();
+        namesInSeveralCells();
         Check.end();
     }
 
@@ -101,6 +103,30 @@ public final class ReckoningBoundsTest {
         c.put("c0", "=seq(2)*a2");
         c.gives("=c0=a2", "1.0");
         c.gives("=c1", "!o");
+    }
+
+    private static void theLargestNumber() {
+        Check.says("a number that would be infinite");
+        Check c = new Check();
+        c.put("b0", "536870912");
+        c.put("b1", "=b0*b0*b0*b0*b0*b0*b0*b0");
+        c.put("b2", "=b1*b1*b1*b1");
+        c.put("b3", "=b2*b0*16384");
+        c.put("a0", "=(9007199*1000*1000000+254740991)*b3");
+        c.put("a1", "=-a0");
+        c.holds("a0", "a1", Double.MAX_VALUE + "/" + -Double.MAX_VALUE);
+        // A quarter of its last place is lost; a half of it is too much.
+        c.gives("=a0+b3/4=a0", "1.0");
+        c.gives("=a0+b3/2", "!o");
+        c.gives("=a1-b3/4=a1", "1.0");
+        c.gives("=a1-b3/2", "!o");
+        c.gives("=sum(a0,b3/4)=a0", "1.0");
+        c.gives("=sum(a0,b3/2)", "!o");
+        c.gives("=sum(a1,-b3/2)", "!o");
+        c.gives("=sub(a0)=a0", "1.0");
+        c.put("c0", "=a0*1");
+        Check.same("bitsOf", c.sheet.bitsOf(0, 2), Double.doubleToLongBits(Double.MAX_VALUE));
+        Check.same("bitsOf", c.sheet.bitsOf(1, 0), Double.doubleToLongBits(-Double.MAX_VALUE));
     }
 
     private static void blankIsZero() {
@@ -351,6 +377,12 @@ public final class ReckoningBoundsTest {
         c.put("a0", "0");
         c.put("a1", "-0");
         c.holds("c0", "d1", "0.0 0.0/-0.0 1.0");
+        String[] alike = {"x", "", "x", "", "7", "7"};
+        for (int i = 0; i < 6; i++) {
+            c.put("a" + i, alike[i]);
+        }
+        c.put("c0", "=sort(a0:b5)");
+        c.holds("d0", "d5", "4.0/5.0/0.0/2.0/1.0/3.0");
         gives("=sort(7)", "7.0", "=sort(\"x\")", "'x", "=sort(a0)", "", "=sort(\"\")", "'");
         Check d = new Check();
         d.put("a0", "=sort(-seq(4))");
@@ -372,6 +404,8 @@ public final class ReckoningBoundsTest {
         c.gives("=sort(a1:b1)", "!n");
         c.gives("=sort(trans(a0:b1))", "!d");
         c.gives("=sort(A)", "!n");
+        c.gives("=sort(b0:b1)", "!d");
+        c.gives("=sort(b1:c2)", "!n");
         c.put("b0", "");
         c.gives("=sort(a0:b1)", "!n");
     }
@@ -447,7 +481,8 @@ public final class ReckoningBoundsTest {
 
     private static void matchingNothing() {
         Check.says("if the first one is an array, 'v'; without one 'a'");
-        gives("=match(seq(2),seq(2))", "!v", "=match(seq(2),9)", "!v", "=match(seq(1),seq(2))", "1.0",
+        gives("=match(60,seq(60))", "60.0", "=match(61,seq(60))", "!a", "=match(3,seq(2))", "!a",
+                "=match(seq(2),seq(2))", "!v", "=match(seq(2),9)", "!v", "=match(seq(1),seq(2))", "1.0",
                 "=match(3,seq(2))", "!a", "=match(\"1\",seq(2))", "!a", "=match(3,4)", "!a", "=match(a0:b0,1)", "!v",
                 "=match(1/(seq(2)-1),1)", "!v");
     }
@@ -605,5 +640,24 @@ public final class ReckoningBoundsTest {
         c.name('F', "=if(0,F,3)");
         c.gives("=F", "3.0");
         c.gives("=A", "8.0");
+    }
+
+    private static void namesInSeveralCells() {
+        Check.says("it is worked out where it stands");
+        Check c = new Check().grow();
+        c.name('A', "=d0");
+        c.name('B', "=A+1");
+        c.name('C', "=A+10+d9");
+        c.put("d0", "1");
+        c.put("a0", "=e0+B+f0");
+        c.put("a1", "=A+C");
+        c.put("a2", "=e9+C+f9");
+        c.put("a3", "=B");
+        c.holds("a0", "a3", "2.0/12.0/11.0/2.0");
+        String[] cells = {"d0", "d9", "e0", "f0", "e9", "f9"};
+        int[] due = {4, 2, 1, 1, 1, 1};
+        for (int i = 0; i < cells.length; i++) {
+            Check.same("readers of " + cells[i], c.readers(cells[i]), due[i]);
+        }
     }
 }
