@@ -362,6 +362,12 @@ public final class FormulaBoundsTest {
         c.put("b2", "=sum(b2:$c$3)");
         c.fill("b2", "f5");
         c.writes("f5", "=sum(f5:$c$3)");
+        c.sheet.insertRow(0, 0);
+        c.sheet.insertColumn(0, 0);
+        c.writes("g6", "=sum(g6:$d$4)");
+        c.writes("b1", "=((b1+$c1)+b$3)+$c$3");
+        c.sheet.undo(0);
+        c.sheet.undo(0);
         // As far from where it is now, not from where it was when it was read.
         c.put("c0", "=a0");
         c.sheet.insertColumn(0, 1);

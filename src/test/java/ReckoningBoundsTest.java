@@ -526,6 +526,12 @@ public final class ReckoningBoundsTest {
         c.gives("=sub(a1)", "0.0");
         c.gives("=sub(b0)", "0.0");
         c.gives("=sub(a0:a2)", "12.0");
+        c.put("b2", "100");
+        c.put("e0", "1000");
+        c.gives("=sub(a2)", "7.0");
+        c.gives("=sub(b2)", "100.0");
+        c.gives("=sub(e0)", "1000.0");
+        c.gives("=sub(d1:f0)", "1000.0");
         c.gives("=sub((a0:a2))", "12.0");
         for (String part : new String[] {"5", "\"x\"", "A", "-a0", "a0%", "a0+0", "seq(2)", "if(1,a0)", "sub(a0)", "1/0"}) {
             c.gives("=sub(" + part + ")", "!v");
@@ -649,13 +655,13 @@ public final class ReckoningBoundsTest {
         c.name('B', "=A+1");
         c.name('C', "=A+10+d9");
         c.put("d0", "1");
-        c.put("a0", "=e0+B+f0");
+        c.put("a0", "=e0+d9+B+f0");
         c.put("a1", "=A+C");
         c.put("a2", "=e9+C+f9");
         c.put("a3", "=B");
         c.holds("a0", "a3", "2.0/12.0/11.0/2.0");
         String[] cells = {"d0", "d9", "e0", "f0", "e9", "f9"};
-        int[] due = {4, 2, 1, 1, 1, 1};
+        int[] due = {4, 3, 1, 1, 1, 1};
         for (int i = 0; i < cells.length; i++) {
             Check.same("readers of " + cells[i], c.readers(cells[i]), due[i]);
         }

@@ -8,6 +8,7 @@ public final class TypingBoundsTest {
         atMostTenRows();
         atMostEightColumns();
         placesFromZero();
+        noSuchRowOrColumn();
         lettersAndDigits();
         manyCalls();
         characters();
@@ -111,6 +112,69 @@ public final class TypingBoundsTest {
         Check.outside("column 8", () -> c.sheet.contentAt(0, 8));
         // The product of a place and a width comes round to 0 there.
         Check.outside("row 2 to the 29th", () -> c.sheet.contentAt(1 << 29, 0));
+    }
+
+    /** A call with a cell. */
+    private interface CellCall {
+        void run(LedgerleafSheets sheet, int row, int column);
+    }
+
+    private static boolean isOutside(CellCall call, LedgerleafSheets sheet, int row, int column) {
+        try {
+            call.run(sheet, row, column);
+        } catch (IndexOutOfBoundsException e) {
+            return true;
+        } catch (java.util.NoSuchElementException e) {
+            return false;
+        }
+        return false;
+    }
+
+    private static void cells(String what, int rows, int columns, CellCall call) {
+        Check c = new Check();
+        while (c.sheet.rows() < rows) {
+            c.sheet.insertRow(1, 0);
+        }
+        while (c.sheet.columns() < columns) {
+            c.sheet.insertColumn(1, 0);
+        }
+        while (c.sheet.rows() > rows) {
+            c.sheet.removeRow(1, 0);
+        }
+        while (c.sheet.columns() > columns) {
+            c.sheet.removeColumn(1, 0);
+        }
+        c.put("a0", "5");
+        for (int row = -1; row <= 10; row++) {
+            for (int column = -1; column <= 8; column++) {
+                boolean isThere = row >= 0 && row < rows && column >= 0 && column < columns;
+                Check.same(what + " of " + row + " " + column, isOutside(call, c.sheet, row, column), !isThere);
+            }
+        }
+    }
+
+    private static void noSuchRowOrColumn() {
+        Check.says("Throws IndexOutOfBoundsException if there is no such row or column");
+        for (int rows : new int[] {2, 6, 9}) {
+            int columns = rows == 2 ? 8 : rows == 6 ? 6 : 1;
+            cells("enter", rows, columns, (sheet, row, column) -> sheet.enter(0, row, column));
+            cells("fill from", rows, columns, (sheet, row, column) -> sheet.fill(0, row, column, 0, 0));
+            cells("fill to", rows, columns, (sheet, row, column) -> sheet.fill(0, 0, 0, row, column));
+            cells("sortRows", rows, columns, (sheet, row, column) -> sheet.sortRows(0, column, row, row));
+            cells("sortRows to", rows, columns, (sheet, row, column) -> sheet.sortRows(0, column, Math.min(0, row), row));
+            cells("kindAt", rows, columns, (sheet, row, column) -> sheet.kindAt(row, column));
+            cells("numberAt", rows, columns, (sheet, row, column) -> sheet.numberAt(row, column));
+            cells("errorAt", rows, columns, (sheet, row, column) -> sheet.errorAt(row, column));
+            cells("textLength", rows, columns, (sheet, row, column) -> sheet.textLength(row, column));
+            cells("textAt", rows, columns, (sheet, row, column) -> sheet.textAt(row, column, 0));
+            cells("kindByAll", rows, columns, (sheet, row, column) -> sheet.kindByAll(row, column));
+            cells("numberByAll", rows, columns, (sheet, row, column) -> sheet.numberByAll(row, column));
+            cells("spillOf", rows, columns, (sheet, row, column) -> sheet.spillOf(row, column));
+            cells("readers", rows, columns, (sheet, row, column) -> sheet.readers(row, column));
+            cells("contentAt", rows, columns, (sheet, row, column) -> sheet.contentAt(row, column));
+            cells("write", rows, columns, (sheet, row, column) -> sheet.write(row, column));
+            cells("bitsOf", rows, columns, (sheet, row, column) -> sheet.bitsOf(row, column));
+        }
     }
 
     private static void lettersAndDigits() {
