@@ -363,6 +363,8 @@ public final class FormulaBoundsTest {
         c.fill("b2", "f5");
         c.writes("f5", "=sum(f5:$c$3)");
         c.sheet.insertRow(0, 0);
+        c.writes("f6", "=sum(f6:$c$4)");
+        c.writes("a1", "=((a1+$b1)+a$3)+$b$3");
         c.sheet.insertColumn(0, 0);
         c.writes("g6", "=sum(g6:$d$4)");
         c.writes("b1", "=((b1+$c1)+b$3)+$c$3");

@@ -156,6 +156,12 @@ public final class ReckoningBoundsTest {
         Check c = new Check();
         c.put("a0", "=-seq(2)*0");
         Check.same("of an array", c.sheet.bitsOf(1, 0), 0L);
+        Check d = large();
+        d.put("c0", "=1/a0/b0");
+        d.put("c1", "=-c0*c0");
+        Check.same("of what is too small", d.sheet.bitsOf(1, 2), 0L);
+        d.put("c1", "=-c0/a0");
+        Check.same("of what is too small", d.sheet.bitsOf(1, 2), 0L);
     }
 
     private static void twoNumbers() {
@@ -660,8 +666,8 @@ public final class ReckoningBoundsTest {
         c.put("a2", "=e9+C+f9");
         c.put("a3", "=B");
         c.holds("a0", "a3", "2.0/12.0/11.0/2.0");
-        String[] cells = {"d0", "d9", "e0", "f0", "e9", "f9"};
-        int[] due = {4, 3, 1, 1, 1, 1};
+        String[] cells = {"d0", "d9", "e0", "f0", "e9", "f9", "a8", "g0"};
+        int[] due = {4, 3, 1, 1, 1, 1, 0, 0};
         for (int i = 0; i < cells.length; i++) {
             Check.same("readers of " + cells[i], c.readers(cells[i]), due[i]);
         }
