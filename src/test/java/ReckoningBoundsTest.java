@@ -576,9 +576,29 @@ public final class ReckoningBoundsTest {
         c.sheet.hide(3, true);
         c.holds("b0", "!n");
         c.gives("=sub(a3)", "0.0");
+        subOfWrongParts();
+    }
+
+    /** Also a "sub" with a wrong number of parts, or of a wrong kind, is a "sub" and nothing around it. */
+    private static void subOfWrongParts() {
+        Check c = new Check();
+        c.put("a0", "1");
         c.put("a1", "=sub(a0,a0)");
-        c.put("b1", "=sub(a0:a1)");
-        Check.same("contentAt", c.sheet.contentAt(1, 1), 'f');
+        c.put("a2", "=sub(5)");
+        c.put("b1", "=sub(a0:a2)");
+        c.holds("a1", "!n");
+        c.holds("a2", "!v");
+        c.holds("b1", "1.0");
+        Check.same("readers of one with two parts", c.readers("a1"), 0);
+        Check.same("readers of one of a number", c.readers("a2"), 0);
+        c.put("a2", "=(sub(a0,a0))");
+        c.holds("b1", "1.0");
+        c.put("a2", "=sub(a0,a0)+0");
+        c.holds("b1", "!n");
+        c.put("a2", "=iferr(sub(a0,a0),2)");
+        c.holds("b1", "3.0");
+        c.put("a2", "=subs(a0)");
+        c.holds("b1", "!n");
     }
 
     private static void subOfAll() {
